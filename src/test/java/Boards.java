@@ -1,0 +1,58 @@
+/** Boards for tests, from texts whose rows are parted by "/". */
+final class Boards {
+    private Boards() {
+    }
+
+    static IslandBridges of(String text) {
+        IslandBridges board = new IslandBridges();
+        write(board, text);
+        int loaded = board.load();
+        if (loaded < 0) {
+            throw new IllegalStateException("not loaded: " + text + ", " + loaded);
+        }
+        board.clearText();
+        return board;
+    }
+
+    static void write(IslandBridges board, String text) {
+        for (int index = 0; index < text.length(); index++) {
+            board.type(text.charAt(index));
+        }
+    }
+
+    /** All that can be asked of a board and does not change it, in one line. */
+    static String picture(IslandBridges board) {
+        StringBuilder line = new StringBuilder();
+        for (int what = 0; what <= 13; what++) {
+            line.append(board.count(what)).append(' ');
+        }
+        for (int cell = 0; cell < board.count(0) * board.count(1); cell++) {
+            line.append(board.at(cell)).append(',');
+            for (int what = 0; what <= 5; what++) {
+                line.append(board.islandInfo(cell, what)).append(' ');
+            }
+        }
+        for (int way = 0; way < board.count(3); way++) {
+            for (int what = 0; what <= 7; what++) {
+                line.append(board.way(way, what)).append(' ');
+            }
+        }
+        line.append(board.hint()).append(' ').append(board.fault(0)).append(' ').append(board.fault(1));
+        return line.toString();
+    }
+
+    /** The picture without the states in the history and the text. */
+    static String pictureOfState(IslandBridges board) {
+        StringBuilder line = new StringBuilder();
+        for (int what = 0; what <= 11; what++) {
+            line.append(board.count(what)).append(' ');
+        }
+        for (int cell = 0; cell < board.count(0) * board.count(1); cell++) {
+            line.append(board.at(cell)).append(' ');
+        }
+        for (int way = 0; way < board.count(3); way++) {
+            line.append(board.way(way, 2)).append(board.way(way, 3)).append(' ');
+        }
+        return line.toString();
+    }
+}
