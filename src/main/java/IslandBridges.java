@@ -491,6 +491,8 @@ public final class IslandBridges {
         private final int[] islandAfter = new int[MOST_CELLS];
         private final int[] firstOf = new int[MOST_WAYS];
         private final int[] secondOf = new int[MOST_WAYS];
+        private final int[] firstCellOf = new int[MOST_WAYS];
+        private final int[] secondCellOf = new int[MOST_WAYS];
         /** How far it is from a cell of the way to the next one: 1 along a row, W along a column. */
         private final int[] strideOf = new int[MOST_WAYS];
         final int[] waysOf = new int[MOST_ISLANDS];
@@ -522,11 +524,11 @@ public final class IslandBridges {
         }
 
         int firstCell(int way) {
-            return cellOf(first(way));
+            return valueAt(firstCellOf, way);
         }
 
         int secondCell(int way) {
-            return cellOf(second(way));
+            return valueAt(secondCellOf, way);
         }
 
         boolean isAlongRow(int way) {
@@ -541,8 +543,9 @@ public final class IslandBridges {
         /** Whether a cell is between the two islands of a way. */
         boolean isOver(int way, int cell) {
             int stride = valueAt(strideOf, way);
-            int first = firstCell(way);
-            return stride != 0 && cell > first && cell < secondCell(way) && (cell - first) % stride == 0;
+            int first = valueAt(firstCellOf, way);
+            int second = valueAt(secondCellOf, way);
+            return stride != 0 && cell > first && cell < second && (cell - first) % stride == 0;
         }
 
         long crossingsOf(int way) {
@@ -606,6 +609,8 @@ public final class IslandBridges {
             }
             put(firstOf, ways, first);
             put(secondOf, ways, second);
+            put(firstCellOf, ways, cellOf(first));
+            put(secondCellOf, ways, cellOf(second));
             put(strideOf, ways, stride);
             add(waysOf, first, 1);
             add(waysOf, second, 1);
@@ -639,6 +644,7 @@ public final class IslandBridges {
     private static final class Sums {
         private final State state;
         private final Layout layout;
+        private final int[] numbers = new int[MOST_ISLANDS];
         final int[] bridges = new int[MOST_ISLANDS];
         final int[] caps = new int[MOST_ISLANDS];
         final int[] lacks = new int[MOST_ISLANDS];
@@ -658,7 +664,9 @@ public final class IslandBridges {
                 addWay(layout.second(way), way);
             }
             for (int island = 0; island < layout.islands; island++) {
-                put(lacks, island, number(island) - valueAt(bridges, island));
+                int number = valueAt(state.numbers, layout.cellOf(island));
+                put(numbers, island, number);
+                put(lacks, island, number - valueAt(bridges, island));
             }
         }
 
@@ -667,13 +675,9 @@ public final class IslandBridges {
             add(caps, island, valueAt(state.caps, way));
         }
 
-        int number(int island) {
-            return valueAt(state.numbers, layout.cellOf(island));
-        }
-
         boolean areBroken() {
             for (int island = 0; island < layout.islands; island++) {
-                if (valueAt(caps, island) < number(island) || valueAt(lacks, island) < 0) {
+                if (valueAt(caps, island) < valueAt(numbers, island) || valueAt(lacks, island) < 0) {
                     return true;
                 }
             }
@@ -690,7 +694,7 @@ public final class IslandBridges {
         }
 
         private int leastBridgesFor(int island, int way) {
-            return number(island) - (valueAt(caps, island) - valueAt(state.caps, way));
+            return valueAt(numbers, island) - (valueAt(caps, island) - valueAt(state.caps, way));
         }
     }
 
@@ -723,7 +727,7 @@ public final class IslandBridges {
             int lower = Math.min(one, other);
             int higher = Math.max(one, other);
             for (int island = 0; island < layout.islands; island++) {
-                if (leader(island) == higher) {
+                if (valueAt(leaders, island) == higher) {
                     put(leaders, island, lower);
                 }
             }
@@ -740,7 +744,7 @@ public final class IslandBridges {
         private int leadersAheadOf(int end) {
             int number = 0;
             for (int island = 0; island < end; island++) {
-                if (leader(island) == island) {
+                if (valueAt(leaders, island) == island) {
                     number++;
                 }
             }
