@@ -418,7 +418,7 @@ public final class IslandBridges {
         return sums.areBroken();
     }
 
-    // No index is used untested: these three ask for the place first.
+    // The machine throws at an index that a row does not have: these three test it first.
 
     private static int valueAt(int[] row, int place) {
         return place >= 0 && place < row.length ? row[place] : 0;
@@ -946,9 +946,9 @@ public final class IslandBridges {
     private static final class Maker {
         private static final int TRIES = 200;
 
-        /** By cells, whether there is an island or a bridge. */
+        /** By cells, 1 if there is an island or a bridge. */
         private final int[] taken = new int[MOST_CELLS];
-        /** By cells, the bridges of the island there; islands are told by their place in cellOf. */
+        /** By cells, the bridges of the island there. */
         private final int[] numbers = new int[MOST_CELLS];
         /** The cells of the islands, ascending. */
         private final int[] cellOf = new int[MOST_ISLANDS];

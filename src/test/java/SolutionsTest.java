@@ -124,6 +124,14 @@ public final class SolutionsTest {
         twoIslands(x, 0, 25, 11, 1);
         is("count(4)", x.count(4), 0);
         is("make(65535, 24)", x.make(65535, 24) >= 2 ? 1 : 0, 1);
+        // With seed 82 the try 200 makes the last island; with 285 the try 201 would make one more.
+        made(82, 24, 12, 12);
+        made(285, 24, 12, 12);
+        made(187, 24, 7, 7);
+        made(33, 24, 7, 7);
+        x.begin(12, 12);
+        is("make(82, 24)", x.make(82, 24), 23);
+        is("make(285, 24)", x.make(285, 24), 23);
         for (int seed = 0; seed < 65536; seed += 911) {
             made(seed, 2 + seed % 23, 3 + seed % 10, 3 + seed / 10 % 10);
         }
