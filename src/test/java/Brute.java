@@ -1,7 +1,9 @@
 import java.util.ArrayList;
+import java.util.Arrays;
 import java.util.List;
+import java.util.stream.IntStream;
 
-/** The solutions of a board by trying, from what the board tells about its ways. */
+/** The solutions of a board by trying, from its numbers and its ways. */
 final class Brute {
     private final int ways;
     private final int[] first;
@@ -12,23 +14,20 @@ final class Brute {
     private final List<int[]> found = new ArrayList<>();
 
     Brute(IslandBridges board) {
-        int columns = board.count(0);
-        ways = board.count(3);
+        this(board.count(0), numbersOf(board), waysOf(board));
+    }
+
+    /** The numbers by cells, and the cells of both islands of each way. */
+    Brute(int columns, int[] numbersByCells, int[][] ends) {
+        ways = ends.length;
+        numbers = numbersByCells;
         first = new int[ways];
         second = new int[ways];
         cross = new boolean[ways][ways];
-        cells = new int[board.count(2)];
-        numbers = new int[columns * board.count(1)];
-        int island = 0;
-        for (int cell = 0; cell < numbers.length; cell++) {
-            numbers[cell] = Math.max(0, board.islandInfo(cell, 0));
-            if (numbers[cell] > 0) {
-                cells[island++] = cell;
-            }
-        }
+        cells = IntStream.range(0, numbers.length).filter(cell -> numbers[cell] > 0).toArray();
         for (int way = 0; way < ways; way++) {
-            first[way] = board.way(way, 0);
-            second[way] = board.way(way, 1);
+            first[way] = ends[way][0];
+            second[way] = ends[way][1];
         }
         for (int a = 0; a < ways; a++) {
             for (int b = 0; b < ways; b++) {
@@ -38,6 +37,18 @@ final class Brute {
             }
         }
         tryAll(new int[ways], 0, numbers.clone());
+    }
+
+    private static int[] numbersOf(IslandBridges board) {
+        int[] numbers = new int[board.count(0) * board.count(1)];
+        Arrays.setAll(numbers, cell -> Math.max(0, board.islandInfo(cell, 0)));
+        return numbers;
+    }
+
+    private static int[][] waysOf(IslandBridges board) {
+        int[][] ends = new int[board.count(3)][];
+        Arrays.setAll(ends, way -> new int[] {board.way(way, 0), board.way(way, 1)});
+        return ends;
     }
 
     private void tryAll(int[] bridges, int way, int[] lacks) {

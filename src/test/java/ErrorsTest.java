@@ -27,10 +27,13 @@ public final class ErrorsTest {
 
     /** The answer is due, and whatever is asked behind it is as without the call. */
     private static void refused(String name, Supplier<IslandBridges> scene, Call call, int want) {
-        IslandBridges board = scene.get();
-        DUE.is(name, call.on(board), want);
-        DUE.is(name + " again", call.on(board), want);
-        DUE.isSame(name + " changes nothing", Boards.unwound(board), Boards.unwound(scene.get()));
+        Supplier<IslandBridges> behind = () -> {
+            IslandBridges board = scene.get();
+            DUE.is(name, call.on(board), want);
+            DUE.is(name + " again", call.on(board), want);
+            return board;
+        };
+        DUE.isSame(name + " changes nothing", Boards.unwound(behind), Boards.unwound(scene));
     }
 
     private static IslandBridges used() {

@@ -55,6 +55,11 @@ public final class HistoryTest {
         }
     }
 
+    private static IslandBridges behind(IslandBridges board, Call call) {
+        call.on(board);
+        return board;
+    }
+
     private static void emptyHistory() {
         DUE.by("Returns the number of states that are left in the history; NOT_POSSIBLE if it is empty.");
         IslandBridges x = new IslandBridges();
@@ -163,10 +168,8 @@ public final class HistoryTest {
             x -> x.solutions(), x -> x.inAll(0), x -> x.fault(0), x -> x.fault(1)
         };
         for (int place = 0; place < asks.length; place++) {
-            IslandBridges x = scene();
-            asks[place].on(x);
-            asks[place].on(x);
-            DUE.isSame("ask " + place, Boards.unwound(x), Boards.unwound(scene()));
+            Call ask = asks[place];
+            DUE.isSame("ask " + place, Boards.unwound(() -> behind(scene(), ask)), Boards.unwound(() -> scene()));
         }
         IslandBridges x = scene();
         x.undo();
@@ -188,13 +191,12 @@ public final class HistoryTest {
             x -> x.cap(0, 0), x -> x.steps(0), x -> x.make(0, 1)
         };
         for (int place = 0; place < refused.length; place++) {
-            IslandBridges x = scene();
-            x.undo();
-            is("refused " + place, refused[place].on(x) < 0 ? 1 : 0, 1);
+            Call call = refused[place];
+            IslandBridges x = behind(scene(), y -> y.undo());
+            is("refused " + place, call.on(x) < 0 ? 1 : 0, 1);
             is("refused " + place + ": count(12)", x.count(12), 3);
-            IslandBridges twin = scene();
-            twin.undo();
-            DUE.isSame("refused " + place, Boards.unwound(x), Boards.unwound(twin));
+            String want = Boards.unwound(() -> behind(scene(), y -> y.undo()));
+            DUE.isSame("refused " + place, Boards.unwound(() -> behind(behind(scene(), y -> y.undo()), call)), want);
         }
         IslandBridges broken = Boards.of("3.3/.../...");
         is("step() of a broken board", broken.step(), -2);

@@ -445,18 +445,24 @@ final class Model {
         return made;
     }
 
-    int solutions(IslandBridges board) {
+    int solutions() {
         if (now.islands.isEmpty()) {
             return -2;
         }
-        return now.ways.size() > 14 ? -3 : new Brute(board).solutions();
+        return now.ways.size() > 14 ? -3 : brute().solutions();
     }
 
-    int inAll(IslandBridges board, int way) {
+    int inAll(int way) {
         if (!isWay(way)) {
             return -1;
         }
-        return now.ways.size() > 14 ? -3 : new Brute(board).inAll(way);
+        return now.ways.size() > 14 ? -3 : brute().inAll(way);
+    }
+
+    private Brute brute() {
+        int[] numbers = new int[now.columns * now.rows];
+        Arrays.setAll(numbers, cell -> now.islands.getOrDefault(cell, 0));
+        return new Brute(now.columns, numbers, now.ways.toArray(new int[0][]));
     }
 
     int make(int seed, int islands) {

@@ -200,6 +200,14 @@ public final class SolutionsEdgesTest {
         is("solutions()", tail.solutions(), 2);
         is("the same in both", tail.inAll(tail.between(2, 4)), 1);
         is("not the same", tail.inAll(tail.between(0, 2)), -4);
+        String[] many = {"232/343/232", "23321/343../232..", FOURTEEN_WAYS};
+        for (String text : many) {
+            IslandBridges x = Boards.of(text);
+            Brute brute = new Brute(x);
+            for (int way = 0; way < x.count(3); way++) {
+                is(text + ": inAll(" + way + ")", x.inAll(way), brute.inAll(way));
+            }
+        }
         IslandBridges none = Boards.of("1.1/.../1.1");
         for (int way = 0; way < 4; way++) {
             is("no solution: inAll(" + way + ")", none.inAll(way), -4);

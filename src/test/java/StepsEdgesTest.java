@@ -229,6 +229,10 @@ public final class StepsEdgesTest {
         is("way 0 leaves 1 open, way 1 is the first one", x.hint(), 401);
         x.build(3);
         is("the islands of way 0 would be complete, but not the one joined to them", x.hint(), 401);
+        IslandBridges y = Boards.of("2.3.2/...../1.3.2");
+        y.build(0);
+        is("steps(2)", y.steps(2), 2);
+        is("both of way 2 would be complete, but not the first island of all", y.step(), 404);
     }
 
     private static void cutOffNeedsAnIslandOutside() {
@@ -347,15 +351,18 @@ public final class StepsEdgesTest {
 
     private static void hintIsAsStep() {
         DUE.by("Tells the step that step() would make. Nothing changes.");
-        IslandBridges x = Boards.of("1.1/.../1.1");
         for (int step = 0; step < 9; step++) {
+            IslandBridges x = Boards.of("1.1/.../1.1");
+            for (int made = 0; made < step; made++) {
+                x.step();
+            }
             String before = Boards.picture(x);
             int hint = x.hint();
             is("hint() again", x.hint(), hint);
             DUE.isSame("step " + step, Boards.picture(x), before);
             is("step()", x.step(), hint);
+            is("there are eight", hint >= 0 ? 1 : 0, step < 8 ? 1 : 0);
         }
-        is("the last one was none", x.hint(), -4);
     }
 
     private static void stepsRanges() {
