@@ -22,6 +22,8 @@ public final class IslandBridges {
     private static final int MOST_STEPS = 200;
     private static final int MOST_SEARCHED_WAYS = 14;
     private static final int MOST_SOLUTIONS = 50;
+    // There are no more: each of the searched ways has 0, 1 or 2 bridges, and 3 to the power of 14 is this.
+    private static final int ALL_SOLUTIONS = 4782969;
     private static final int LAST_SEED = 65535;
     private static final int NONE = -1;
 
@@ -275,7 +277,7 @@ public final class IslandBridges {
         if (layout.ways > MOST_SEARCHED_WAYS) {
             return LIMIT_REACHED;
         }
-        search.run(Integer.MAX_VALUE, way);
+        search.run(ALL_SOLUTIONS, way);
         return search.found == 0 || search.differs ? NOT_FOUND : search.common;
     }
 
@@ -1068,16 +1070,21 @@ public final class IslandBridges {
             return place >= 0 && place < states.length ? states[place] : null;
         }
 
+        private void putState(int place, State state) {
+            if (place >= 0 && place < states.length) {
+                states[place] = state;
+            }
+        }
+
         /** The oldest state goes to the end, where its rows are used again. */
         private void dropOldest() {
             State oldest = stateAt(0);
-            for (int place = 1; place < states.length; place++) {
-                states[place - 1] = states[place];
+            int last = states.length - 1;
+            for (int place = 0; place < last; place++) {
+                putState(place, stateAt(place + 1));
             }
-            if (oldest != null) {
-                states[states.length - 1] = oldest;
-                size--;
-            }
+            putState(last, oldest);
+            size--;
         }
     }
 

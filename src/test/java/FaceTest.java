@@ -8,6 +8,8 @@ import java.nio.file.Files;
 import java.nio.file.Path;
 import java.util.Arrays;
 import java.util.TreeSet;
+import java.util.regex.Matcher;
+import java.util.regex.Pattern;
 
 /** The public face, and what can be seen of the rules of the language from outside. */
 public final class FaceTest {
@@ -23,6 +25,8 @@ public final class FaceTest {
         members();
         nestedClasses();
         source();
+        everyUseOfTheLibrary();
+        everyIndexIsTested();
         everyCallForAnyArguments();
         nothingIsMadeByCalls();
         DUE.end();
@@ -82,8 +86,13 @@ public final class FaceTest {
         }
     }
 
+    /** The program without its comments; there is an empty line between two methods. */
+    private static String program() throws IOException {
+        return Files.readString(Path.of("src/main/java/IslandBridges.java")).replaceAll("(?s)//[^\n]*|/\\*.*?\\*/", "");
+    }
+
     private static void source() throws IOException {
-        String source = Files.readString(Path.of("src/main/java/IslandBridges.java")).replaceAll("//.*|/\\*\\*.*?\\*/", "");
+        String source = program();
         String[] forbidden = {
             "\\bthrow\\b", "\\btry\\b", "\\bcatch\\b", "\\bsynchronized\\b", "\\bassert\\b", "\\bimport\\b", "->", "::",
             "\\bwhile\\b", "\\bSystem\\.(?!arraycopy)", "\\bRandom\\b", "\\bThread\\b", "Exact\\b", "\"", "[^\\x00-\\x7f]"
@@ -91,6 +100,32 @@ public final class FaceTest {
         for (String sign : forbidden) {
             DUE.isTrue("nothing like " + sign, !source.matches("(?s).*" + sign + ".*"));
         }
+    }
+
+    /** Rule 4 lists functions of the library, but none of its constants. */
+    private static void everyUseOfTheLibrary() throws IOException {
+        TreeSet<String> listed = new TreeSet<>(Arrays.asList("Long.bitCount(", "Math.max(", "Math.min(", "System.arraycopy("));
+        Matcher use = Pattern.compile("\\b[A-Z]\\w*[a-z]\\w*\\.\\w+\\(?").matcher(program());
+        int uses = 0;
+        while (use.find()) {
+            uses++;
+            DUE.isTrue(use.group() + " is listed", listed.contains(use.group()));
+        }
+        DUE.isTrue("some uses were found", uses > 0);
+    }
+
+    /** Rule 7: the index is a plain name, and ahead of its use, in the same method, it is compared with the length of the row. */
+    private static void everyIndexIsTested() throws IOException {
+        String source = program();
+        Matcher use = Pattern.compile("(?<!new )\\b(\\w+)\\[([^\\]]+)\\]").matcher(source);
+        int uses = 0;
+        while (use.find()) {
+            uses++;
+            String ahead = source.substring(source.lastIndexOf("\n\n", use.start()), use.start());
+            boolean isTested = ahead.contains(use.group(2) + " < " + use.group(1) + ".length");
+            DUE.isTrue(use.group() + " is tested", isTested && use.group(2).matches("\\w+"));
+        }
+        DUE.isTrue("some uses were found", uses > 0);
     }
 
     /** On boards of all kinds, with arguments in and far out of range: no call throws, errors are the four. */
